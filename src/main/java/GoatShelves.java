@@ -16,6 +16,12 @@ public final class GoatShelves {
     private static final int MOST_DAYS_AHEAD = 100;
     private static final int MOST_DAYS_PLANNED = 40;
 
+    /** What daysUntil() can wait for. */
+    private static final int LEARNS = 0;
+    private static final int LOST = 1;
+    private static final int MEET = 2;
+    private static final int REACH = 3;
+
     private final Cliff cliff;
     /** For what would be: it is overwritten by each act that looks ahead. */
     private final Cliff trial;
@@ -187,56 +193,28 @@ public final class GoatShelves {
         if (!isGoat(goat) || !isPage(page)) {
             return found(BEYOND);
         }
-        trial.become(cliff);
-        for (int days = 0; days <= MOST_DAYS_AHEAD; days++) {
-            if (hasBit(trial.knows[goat], page)) {
-                return days;
-            }
-            trial.passDay();
-        }
-        return found(NONE);
+        return daysUntil(LEARNS, goat, page);
     }
 
     public int lost(int page) {
         if (!isPage(page)) {
             return found(BEYOND);
         }
-        trial.become(cliff);
-        for (int days = 0; days <= MOST_DAYS_AHEAD; days++) {
-            if (!trial.isInPrint(page)) {
-                return days;
-            }
-            trial.passDay();
-        }
-        return found(NONE);
+        return daysUntil(LOST, page, 0);
     }
 
     public int meet(int a, int b) {
         if (!isGoat(a) || !isGoat(b) || a == b) {
             return found(BEYOND);
         }
-        trial.become(cliff);
-        for (int days = 0; days <= MOST_DAYS_AHEAD; days++) {
-            if (trial.ledge[a] == trial.ledge[b]) {
-                return days;
-            }
-            trial.passDay();
-        }
-        return found(NONE);
+        return daysUntil(MEET, a, b);
     }
 
     public int reach(int goat, int ledge) {
         if (!isGoat(goat) || !isLedge(ledge)) {
             return found(BEYOND);
         }
-        trial.become(cliff);
-        for (int days = 0; days <= MOST_DAYS_AHEAD; days++) {
-            if (trial.ledge[goat] == ledge) {
-                return days;
-            }
-            trial.passDay();
-        }
-        return found(NONE);
+        return daysUntil(REACH, goat, ledge);
     }
 
     // ---- where, as what
@@ -607,6 +585,27 @@ public final class GoatShelves {
             product *= base;
         }
         return product;
+    }
+
+    /** Behind how many DAYS, the fewest, something has come; a and b are what the act that asks was given. */
+    private int daysUntil(int event, int a, int b) {
+        trial.become(cliff);
+        for (int days = 0; days <= MOST_DAYS_AHEAD; days++) {
+            if (hasCome(event, a, b)) {
+                return days;
+            }
+            trial.passDay();
+        }
+        return found(NONE);
+    }
+
+    private boolean hasCome(int event, int a, int b) {
+        switch (event) {
+            case LEARNS: return hasBit(trial.knows[a], b);
+            case LOST: return !trial.isInPrint(a);
+            case MEET: return trial.ledge[a] == trial.ledge[b];
+            default: return trial.ledge[a] == b;
+        }
     }
 
     /** The least value of a trait with which a GOAT KNOWS most PAGES behind n DAYS. */
