@@ -856,6 +856,14 @@ public final class PromisesTest {
         // If 0, who grazes first, is elsewhere, 1 is FED and its PAGE stays.
         x.change(0, 1, 3);
         due(x.censor(4, 1), 2);
+        // 0 learns the PAGE on the DAY on which 1 forgets it, so it is lost without either of them.
+        GoatShelves y = new GoatShelves();
+        bareRock(y);
+        goat(y, GREY, 2, 0);
+        goat(y, GREY, 2, 16);
+        y.change(1, 4, 3);
+        due(y.ahead(0, 2, 1), 16);
+        due(y.censor(4, 1), 1);
     }
 
     private static void kinds() {
