@@ -942,7 +942,7 @@ public final class GoatShelves {
         // -- sums and sets
 
         private boolean isHere(int g) {
-            return !hasBit(gone, g);
+            return (gone >> g & 1) == 0;
         }
 
         int goatsOn(int onLedge) {
@@ -976,7 +976,13 @@ public final class GoatShelves {
         }
 
         int pagesOn(int onLedge) {
-            return pagesOf(goatsOn(onLedge));
+            int set = 0;
+            for (int g = 0; g < goats; g++) {
+                if (isHere(g) && ledge[g] == onLedge) {
+                    set |= knows[g];
+                }
+            }
+            return set;
         }
 
         int pagesKnown() {

@@ -1,25 +1,5 @@
 /** Each promise by itself, with answers reckoned by hand from the document. */
-public final class PromisesTest {
-    private static final int BEYOND = -1000001;
-    private static final int FULL = -1000002;
-    private static final int KIND = -1000003;
-    private static final int NONE = -1000004;
-    private static final int STATE = -1000005;
-    private static final int MISSING = -1000006;
-    private static final int SIZE = -1000007;
-    private static final int LEAST = Integer.MIN_VALUE;
-    private static final int MOST = Integer.MAX_VALUE;
-
-    private static final int GOAT = 0;
-    private static final int NANNY = 1;
-    private static final int BILLY = 2;
-    private static final int GREY = 3;
-    private static final int OLD = 4;
-    private static final int WHITE = 5;
-    private static final int KID = 6;
-
-    private static String at = "";
-
+public final class PromisesTest extends IslandChecks {
     public static void main(String[] args) {
         newObject();
         grass();
@@ -70,37 +50,6 @@ public final class PromisesTest {
         count();
         status();
         Checks.end();
-    }
-
-    private static void due(long got, long want) {
-        Checks.due(at + " (line " + Thread.currentThread().getStackTrace()[2].getLineNumber() + ")", got, want);
-    }
-
-    private static int goat(GoatShelves x, int kind, int ledge, int knows) {
-        int g = x.goat(kind, ledge);
-        x.change(g, 2, knows);
-        return g;
-    }
-
-    private static int text(GoatShelves x, String s) {
-        for (int i = 0; i < s.length(); i++) {
-            x.feed(s.charAt(i), 1);
-        }
-        return x.text();
-    }
-
-    private static void sheet(GoatShelves x, int s, int bits, int... numbers) {
-        x.sheet(s, bits, numbers.length);
-        for (int i = 0; i < numbers.length; i++) {
-            x.write(s, i, numbers[i]);
-        }
-    }
-
-    private static void bareRock(GoatShelves x) {
-        x.set(0, 0);
-        for (int l = 0; l < 12; l++) {
-            x.grass(l, 0);
-        }
     }
 
     private static void newObject() {
