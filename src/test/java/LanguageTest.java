@@ -5,6 +5,8 @@ import java.lang.reflect.Method;
 import java.lang.reflect.Modifier;
 import java.nio.file.Files;
 import java.nio.file.Path;
+import java.util.Map;
+import java.util.TreeMap;
 import java.util.TreeSet;
 import java.util.regex.Matcher;
 import java.util.regex.Pattern;
@@ -30,6 +32,7 @@ public final class LanguageTest {
         members();
         words();
         methodLengths();
+        callDepths();
         Checks.end();
     }
 
@@ -125,5 +128,45 @@ public final class LanguageTest {
                 Checks.due("short: " + lines[i].trim(), end - i <= 60);
             }
         }
+    }
+
+    /** Bodies of all methods of the source, by their names. */
+    private static Map<String, String> bodies() throws IOException {
+        Map<String, String> bodies = new TreeMap<>();
+        String[] lines = source().split("\n");
+        Pattern begin = Pattern.compile("^( {4}| {8})(?! )[^;=]*?\\b(\\w+)\\([^;=]*\\) \\{$");
+        for (int i = 0; i < lines.length; i++) {
+            Matcher m = begin.matcher(lines[i]);
+            if (m.matches()) {
+                StringBuilder body = new StringBuilder();
+                for (int k = i + 1; k < lines.length && !lines[k].equals(m.group(1) + "}"); k++) {
+                    body.append(lines[k]).append('\n');
+                }
+                bodies.merge(m.group(2), body.toString(), String::concat);
+            }
+        }
+        return bodies;
+    }
+
+    private static void callDepths() throws IOException {
+        Map<String, String> bodies = bodies();
+        for (String s : FACE) {
+            String name = s.substring(s.indexOf(' ') + 1, s.indexOf('('));
+            Checks.due("a body of " + name, bodies.containsKey(name));
+            int deep = deep(name, bodies, 0);
+            Checks.due(name + " calls eight deep at most: " + deep, deep <= 8);
+        }
+    }
+
+    /** How many calls stand open at most when a method runs, itself too; by names, so a call of itself is never done. */
+    private static int deep(String name, Map<String, String> bodies, int open) {
+        int most = 0;
+        Matcher calls = Pattern.compile("\\b(\\w+)\\(").matcher(bodies.get(name));
+        while (open < 20 && calls.find()) {
+            if (bodies.containsKey(calls.group(1))) {
+                most = Math.max(most, deep(calls.group(1), bodies, open + 1));
+            }
+        }
+        return 1 + most;
     }
 }

@@ -92,7 +92,11 @@ final class TextEdges extends Edges {
         fault("|Salt 1");
         fault("|sAlt 1");
         fault("|zsalt 1");
+        fault("|asalt 1");
+        fault("|saltz 1");
         fault("|salta 1");
+        fault("salt |a1");
+        fault("salt |z1");
         fault("salt |/1");
         fault("salt |:1");
         fault("salt 1|/");
@@ -234,6 +238,18 @@ final class TextEdges extends Edges {
         fault("|sheep");
         fault("|goa");
         fault("|goats");
+        // Each WORD with its first letter, its last one or one within it another.
+        String[] others = {"boat", "goal", "goet", "manny", "nanni", "nonny", "silly", "billi", "bully", "prey", "gres", "gray",
+            "uld", "olt", "ode", "xhite", "whits", "while", "bid", "kit", "ked", "crass", "grasp", "gloss", "crows", "growl",
+            "glows", "malt", "sale", "silt"};
+        for (String word : others) {
+            fault("|" + word + " 1");
+            fault("salt 1;|" + word + " 1");
+        }
+        String[] otherParts = {"in", "of", "xnows", "known", "knews", "led", "fee", "fad"};
+        for (String word : otherParts) {
+            fault("goat |" + word + " 1");
+        }
         fault("salt 1;|salty 1");
         fault("goat |at 1");
         fault("goat |o 1");
